@@ -572,7 +572,7 @@ public final class HalfPlanks {
                 return;
             }
             int letter = letters[at];
-            if (isDigit(letter)) {
+            if (letter >= '0' && letter <= '9') {
                 takeNumber();
                 return;
             }
@@ -582,17 +582,13 @@ public final class HalfPlanks {
 
         void takeNumber() {
             value = 0;
-            while (at < length && isDigit(letters[at])) {
-                // 100 stands for all that is above 99.
-                value = Math.min(value * 10 + letters[at] - '0', 100);
+            while (at < length && letters[at] >= '0' && letters[at] <= '9') {
+                // 100 stands for all that is above 99, however long it is.
+                value = value < 10 ? value * 10 + letters[at] - '0' : 100;
                 at++;
             }
             boolean zeroAhead = at - place > 1 && letters[place] == '0';
             token = value > 99 || zeroAhead ? WRONG : NUMBER;
-        }
-
-        static boolean isDigit(int letter) {
-            return letter >= '0' && letter <= '9';
         }
     }
 
