@@ -1,14 +1,26 @@
 /** Counts answers that are not the ones due, and prints them. */
 final class Check {
     private int asked = 0;
+    private int askedAtBegin = 0;
     private int wrong = 0;
+    private String test = "";
+
+    /** Notes which test the answers that follow belong to. */
+    void begin(String name) {
+        test = name + ": ";
+        askedAtBegin = asked;
+    }
+
+    int askedSinceBegin() {
+        return asked - askedAtBegin;
+    }
 
     /** Notes one answer beside the one that is due. */
     void same(String call, long got, long due) {
         asked++;
         if (got != due) {
             wrong++;
-            System.out.println(call + " answered " + got + ", due is " + due);
+            System.out.println(test + call + " answered " + got + ", due is " + due);
         }
     }
 
@@ -40,5 +52,12 @@ final class Check {
             throw new IllegalArgumentException("the test's own text has a fault: " + text + " " + items);
         }
         return x;
+    }
+
+    /** Lets so many days go by. */
+    static void days(HalfPlanks x, int number) {
+        for (int i = 0; i < number; i++) {
+            x.days();
+        }
     }
 }
