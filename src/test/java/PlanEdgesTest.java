@@ -564,10 +564,17 @@ public final class PlanEdgesTest {
     }
 
     static void p20MendingMayBeNothing(Check c) {
-        // All promises that are left to come are those of sworn ones, which spoil the liars.
-        HalfPlanks x = Check.told("n1;ul9 1;vl9 1;ul9 1;vl9 1;us1 1;x0 0;x1 0;x2 0;x3 0;");
+        // If it is the sworn one whose promises, none, are broken, its own are all that could come.
+        HalfPlanks x = Check.told(LIARS);
+        c.same("byTurns(1)", x.byTurns(1), 0);
         c.same("byTurns(2)", x.byTurns(2), 36);
-        c.same("byTurns(3)", x.byTurns(3), 36);
+    }
+
+    static void p20OnePlankIsMendedOfTwo(Check c) {
+        HalfPlanks x = Check.told("n2;up5 1;up4 1;vp5 1;vp4 1;x0 0;x1 0;x2 0;x3 0;x0 1;x1 1;x2 1;x3 1;");
+        c.same("byTurns(1)", x.byTurns(1), 9);
+        c.same("byTurns(2)", x.byTurns(2), 9);
+        c.same("byTurns(3)", x.byTurns(3), 0);
     }
 
     static void p20ThreeTurnsBreakAgain(Check c) {
@@ -756,10 +763,15 @@ public final class PlanEdgesTest {
     }
 
     static void p22PlankByTheLotCutByEight(Check c) {
-        // 16807 by 8, cut, is 2100: person 3 promises plank 0, not plank 1.
+        // 16807 by 8, cut, is 2100: person 3 promises plank 0 of two, and of three.
         HalfPlanks x = Check.told("n2;up1 1;vp1 1;up1 1;vp2 1;x0 0;x0 1;x1 1;");
         c.same("winter(1, 1, 2)", x.winter(1, 1, 2), 1);
         c.same("winter(1, 1, 3)", x.winter(1, 1, 3), 0);
+        HalfPlanks y = Check.told("n3;up1 1;vp1 1;up1 1;vp2 1;x0 0;x0 1;x1 1;x0 2;x1 2;");
+        c.same("winter(1, 1, 2)", y.winter(1, 1, 2), 1);
+        // From 2 the lot is 33614, by 8 it is 4201: person 2 promises plank 1.
+        HalfPlanks z = Check.told("n2;up1 1;vp1 1;vp2 1;up1 1;x0 0;x1 0;x0 1;");
+        c.same("winter(1, 2, 2)", z.winter(1, 2, 2), 1);
     }
 
     static void p22LetterUnderWayIsBroken(Check c) {

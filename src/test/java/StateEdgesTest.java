@@ -723,6 +723,18 @@ public final class StateEdgesTest {
         c.same("days(), to day 5", x.days(), 1);
     }
 
+    static void p13LetterComesOnTheDayItWasToComeOn(Check c) {
+        HalfPlanks x = Check.told("n1;up1 3;");
+        c.same("promises(0, 0)", x.promises(0, 0), 3);
+        x.days();
+        x.breaks(0, 0);
+        c.same("promises(0, 0)", x.promises(0, 0), 4);
+        x.undo();
+        c.same("undo()", x.undo(), 2);
+        c.same("days(), to day 2", x.days(), 0);
+        c.same("days(), to day 3", x.days(), 1);
+    }
+
     static void p13TenAreKnown(Check c) {
         HalfPlanks x = new HalfPlanks();
         Check.days(x, 10);

@@ -628,6 +628,17 @@ public final class TextEdgesTest {
         c.same("enough(1)", x.enough(1), HalfPlanks.NONE);
     }
 
+    static void p04ReadAnewKindsAreAsTold(Check c) {
+        HalfPlanks x = Check.told("n1;us1 1;ul9 1;x0 0;");
+        c.same("hold(1, 0)", x.hold(1, 0), 0);
+        Check.type(x, "n1;up1 1;ul9 1;x0 0;");
+        c.same("gorge()", x.gorge(), 4);
+        c.same("hold(1, 0)", x.hold(1, 0), 18);
+        Check.type(x, "n1;ul9 1;us1 1;x1 0;");
+        c.same("gorge()", x.gorge(), 4);
+        c.same("hold(0, 0)", x.hold(0, 0), 0);
+    }
+
     static void p04ReadAnewTheTraceStays(Check c) {
         HalfPlanks x = Check.told(ONE);
         x.rate(2, 0);
