@@ -468,6 +468,8 @@ public final class PlanEdgesTest {
     static void p19NoneOnTwoPlanks(Check c) {
         c.same("friends(2)", Check.told("n8;up1 1;vp1 1;").friends(2), 1);
         c.same("friends(2)", Check.told("n8;us1 1;vp1 1;us1 1;").friends(2), 1);
+        c.same("friends(2), one of bank 1", Check.told("n8;up1 1;up1 1;up1 1;vp1 1;").friends(2), 1);
+        c.same("friends(2), one of bank 0", Check.told("n8;up1 1;vp1 1;vp1 1;vp1 1;").friends(2), 1);
     }
 
     static void p19AsManyAsThereArePlanks(Check c) {
@@ -488,6 +490,9 @@ public final class PlanEdgesTest {
         HalfPlanks x = Check.told("n2;up9 1;vp9 1;up1 1;vp1 1;");
         c.same("friends(10)", x.friends(10), 2);
         c.same("friends(11)", x.friends(11), 1);
+        // Only 0 and 1, 2 and 3, 0 and 3 bear it here; only 0 and 2, 1 and 3, 0 and 3 there.
+        c.same("friends(10)", Check.told("n2;up9 1;vp1 1;up1 1;vp9 1;").friends(10), 2);
+        c.same("friends(10)", Check.told("n2;up9 1;up1 1;vp1 1;vp9 1;").friends(10), 2);
     }
 
     static void p19UnevenPlanksForMerchants(Check c) {
@@ -585,6 +590,21 @@ public final class PlanEdgesTest {
         c.same("byTurns(1)", y.byTurns(1), 10);
         c.same("byTurns(2)", y.byTurns(2), 17 + 1);
         c.same("byTurns(3)", y.byTurns(3), 10);
+    }
+
+    static void p20AnyOneMayBeTheLastToBreak(Check c) {
+        String[] four = {"up9 1;", "up1 1;", "vp9 1;", "vp8 1;"};
+        for (int first = 0; first < 4; first++) {
+            StringBuilder text = new StringBuilder("n1;");
+            for (int i = 0; i < 4; i++) {
+                text.append(four[(first + i) % 4]);
+            }
+            HalfPlanks x = Check.told(text + "x0 0;x1 0;x2 0;x3 0;");
+            // The 9 of bank 0 breaks, is back, and breaks again.
+            c.same("byTurns(1)", x.byTurns(1), 10);
+            c.same("byTurns(2)", x.byTurns(2), 18);
+            c.same("byTurns(3)", x.byTurns(3), 10);
+        }
     }
 
     static void p20NothingIsChanged(Check c) {

@@ -351,6 +351,13 @@ public final class StateEdgesTest {
         c.same("now(2)", x.now(2), 255);
     }
 
+    static void p08BridgeByMerchantsBearsWhatPlank0Does(Check c) {
+        HalfPlanks x = Check.told("n2;um4 1;vm4 1;x0 0;x1 0;x0 1;x1 1;");
+        c.same("plank(1, 0)", x.plank(1, 0), 16);
+        c.same("now(1)", x.now(1), 8);
+        c.same("now(1), one plank", Check.told("n1;um4 1;vm4 1;x0 0;x1 0;").now(1), 8);
+    }
+
     static void p08BridgeOfOnePlank(Check c) {
         HalfPlanks x = Check.told(HELD);
         c.same("now(1)", x.now(1), 7);
@@ -724,15 +731,18 @@ public final class StateEdgesTest {
     }
 
     static void p13LetterComesOnTheDayItWasToComeOn(Check c) {
-        HalfPlanks x = Check.told("n1;up1 3;");
-        c.same("promises(0, 0)", x.promises(0, 0), 3);
-        x.days();
-        x.breaks(0, 0);
-        c.same("promises(0, 0)", x.promises(0, 0), 4);
-        x.undo();
-        c.same("undo()", x.undo(), 2);
-        c.same("days(), to day 2", x.days(), 0);
-        c.same("days(), to day 3", x.days(), 1);
+        for (int p = 0; p < 8; p++) {
+            HalfPlanks x = Check.told("n8;" + EIGHT_OF_A_BANK.replace(" 1", " 3"));
+            int a = 7 - p;
+            c.same("promises(a, p)", x.promises(a, p), 3);
+            x.days();
+            x.breaks(a, p);
+            c.same("promises(a, p)", x.promises(a, p), 4);
+            x.undo();
+            c.same("undo()", x.undo(), 2);
+            c.same("days(), to day 2", x.days(), 0);
+            c.same("days(), to day 3", x.days(), 1);
+        }
     }
 
     static void p13TenAreKnown(Check c) {

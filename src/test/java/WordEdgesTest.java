@@ -485,15 +485,18 @@ public final class WordEdgesTest {
     }
 
     static void p29LetterComesOnTheDayItWasToComeOn(Check c) {
-        HalfPlanks x = Check.told("n1;up1 3;");
-        c.same("promises(0, 0)", x.promises(0, 0), 3);
-        x.days();
-        x.keep(0);
-        x.breaks(0, 0);
-        c.same("promises(0, 0)", x.promises(0, 0), 4);
-        c.same("back(0)", x.back(0), 1);
-        c.same("days(), to day 2", x.days(), 0);
-        c.same("days(), to day 3", x.days(), 1);
+        for (int p = 0; p < 8; p++) {
+            HalfPlanks x = Check.told("n8;" + "up1 3;".repeat(8));
+            int a = 7 - p;
+            c.same("promises(a, p)", x.promises(a, p), 3);
+            x.days();
+            x.keep(0);
+            x.breaks(a, p);
+            c.same("promises(a, p)", x.promises(a, p), 4);
+            c.same("back(0)", x.back(0), 1);
+            c.same("days(), to day 2", x.days(), 0);
+            c.same("days(), to day 3", x.days(), 1);
+        }
     }
 
     static void p29NothingCanBeUndoneBehindIt(Check c) {
